@@ -18,7 +18,7 @@ public final class SolidHull {
   private static final int LEAST_ROOM = 4;
   private static final int MOST_ROOM = 14;
   // By Euler's formula a hull with n corners has at most 2n - 4 facets.
-  private static final int MOST_FACETS = 2 * MOST_ROOM - 4;
+  private static final int MOST_FACETS = 24;
   private static final int POINT_REACH = 60;
   private static final int PLACE_REACH = 200;
 

@@ -57,7 +57,8 @@ public final class CountTest {
   private static void flats() {
     for (int[][] flat : Shapes.flats()) {
       SolidHull hull = Shapes.hull(flat);
-      counts("flat set of " + flat.length, hull, SolidHull.FLAT, SolidHull.FLAT, SolidHull.FLAT, SolidHull.FLAT);
+      int flatAnswer = SolidHull.FLAT;
+      counts("flat set of " + flat.length, hull, flatAnswer, flatAnswer, flatAnswer, flatAnswer);
       CHECK.due("size() after refusals", hull.size(), flat.length);
     }
   }

@@ -34,7 +34,8 @@ public final class FaceTest {
     for (Method method : SolidHull.class.getDeclaredMethods()) {
       int modifiers = method.getModifiers();
       if (!Modifier.isPrivate(modifiers)) {
-        found.add(method.getReturnType() + " " + method.getName() + Arrays.toString(method.getParameterTypes()));
+        String parameters = Arrays.toString(method.getParameterTypes());
+        found.add(method.getReturnType() + " " + method.getName() + parameters);
         check.due(method + " is public", Modifier.isPublic(modifiers), true);
         check.due(method + " is static", Modifier.isStatic(modifiers), false);
       }

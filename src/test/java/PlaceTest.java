@@ -5,6 +5,7 @@ public final class PlaceTest {
   public static void main(String[] args) {
     sideOfCube();
     sideOfTetrahedron();
+    leastTetrahedron();
     visible();
     atTheReach();
     farthest();
@@ -56,6 +57,16 @@ public final class PlaceTest {
     side(hull, 5, 0, 0, SolidHull.OUTSIDE);
     side(hull, -1, 0, 0, SolidHull.OUTSIDE);
     side(hull, 5, -1, 0, SolidHull.OUTSIDE);
+  }
+
+  /** Places that are off a facet plane by the least amount there can be. */
+  private static void leastTetrahedron() {
+    SolidHull hull = Shapes.hull(new int[][] {{0, 0, 0}, {1, 0, 0}, {0, 1, 0}, {0, 0, 1}});
+    int[][] off = {{1, 1, 0}, {1, 0, 1}, {0, 1, 1}, {-1, 0, 0}, {0, -1, 0}, {0, 0, -1}};
+    for (int[] p : off) {
+      side(hull, p[0], p[1], p[2], SolidHull.OUTSIDE);
+      seen(hull, p[0], p[1], p[2], 1);
+    }
   }
 
   private static void visible() {
