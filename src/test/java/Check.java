@@ -1,11 +1,17 @@
 /** Counts and prints the answers that are not the ones that are due. */
 final class Check {
+  private String sentence = "";
   private int wrong = 0;
+
+  /** The words of the document by which the answers from here on are due; they stand in what is printed. */
+  void sentence(String words) {
+    sentence = "[" + words + "] ";
+  }
 
   void due(String call, long got, long want) {
     if (got != want) {
       wrong++;
-      System.out.println(call + " answered " + got + ", due is " + want);
+      System.out.println(sentence + call + " answered " + got + ", due is " + want);
     }
   }
 

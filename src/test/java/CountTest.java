@@ -18,7 +18,7 @@ public final class CountTest {
     CHECK.end();
   }
 
-  private static void counts(String name, SolidHull hull, int facets, int corners, int edges, int sixVolume) {
+  private static void counts(String name, CountedHull hull, int facets, int corners, int edges, int sixVolume) {
     CHECK.due(name + ": facets()", hull.facets(), facets);
     CHECK.due(name + ": corners()", hull.corners(), corners);
     CHECK.due(name + ": edges()", hull.edges(), edges);
@@ -29,7 +29,7 @@ public final class CountTest {
   private static void pointZeroAnywhere() {
     int[][] firsts = {{5, 5, 5}, {5, 5, 10}, {5, 0, 10}, {1, 9, 3}, {0, 3, 3}, {10, 10, 9}};
     for (int[] first : firsts) {
-      SolidHull hull = new SolidHull(14);
+      CountedHull hull = new CountedHull(14);
       hull.add(first[0], first[1], first[2]);
       for (int[] point : Shapes.CUBE) {
         hull.add(point[0], point[1], point[2]);
@@ -39,7 +39,7 @@ public final class CountTest {
   }
 
   private static void growing() {
-    SolidHull hull = Shapes.hull(Shapes.FULL_CUBE);
+    CountedHull hull = Shapes.hull(Shapes.FULL_CUBE);
     hull.add(5, 5, 20);
     counts("cube with a roof", hull, 9, 9, 16, 8000);
     hull.removeLast();
@@ -56,7 +56,7 @@ public final class CountTest {
 
   private static void flats() {
     for (int[][] flat : Shapes.flats()) {
-      SolidHull hull = Shapes.hull(flat);
+      CountedHull hull = Shapes.hull(flat);
       int flatAnswer = SolidHull.FLAT;
       counts("flat set of " + flat.length, hull, flatAnswer, flatAnswer, flatAnswer, flatAnswer);
       CHECK.due("size() after refusals", hull.size(), flat.length);

@@ -3,7 +3,7 @@ import java.util.Random;
 /** All promises: long mixed runs of calls, each answer held against the oracle's. The seeds are fixed. */
 public final class OracleTest {
   private static final int RUNS = 150;
-  private static final int CALLS = 500;
+  private static final int CALLS = CountedHull.MOST_CALLS;
   private static final int[] SPREADS = {1, 2, 3, 5, 12, 60};
   private static final Check CHECK = new Check();
 
@@ -17,7 +17,7 @@ public final class OracleTest {
   private static void run(int seed, int spread) {
     Random random = new Random(seed);
     int room = seed % 3 == 0 ? random.nextInt(20) - 2 : 14;
-    SolidHull hull = new SolidHull(room);
+    CountedHull hull = new CountedHull(room);
     Oracle oracle = new Oracle(room);
     for (int call = 0; call < CALLS; call++) {
       int x = coordinate(random, spread);
@@ -52,7 +52,7 @@ public final class OracleTest {
     return "(" + x + ", " + y + ", " + z + ")";
   }
 
-  private static void askPlace(String name, int kind, SolidHull hull, Oracle oracle, int[] p) {
+  private static void askPlace(String name, int kind, CountedHull hull, Oracle oracle, int[] p) {
     String place = at(p[0], p[1], p[2]);
     if (kind < 7) {
       CHECK.due(name + "side" + place, hull.side(p[0], p[1], p[2]), oracle.side(p[0], p[1], p[2]));
@@ -63,7 +63,7 @@ public final class OracleTest {
     }
   }
 
-  private static void askPoints(String name, int kind, SolidHull hull, Oracle oracle, int a, int b) {
+  private static void askPoints(String name, int kind, CountedHull hull, Oracle oracle, int a, int b) {
     String pair = "(" + a + ", " + b + ")";
     switch (kind) {
       case 9 -> CHECK.due(name + "corner(" + a + ")", hull.corner(a), oracle.corner(a));
@@ -73,7 +73,7 @@ public final class OracleTest {
     }
   }
 
-  private static void askCount(String name, int kind, SolidHull hull, Oracle oracle) {
+  private static void askCount(String name, int kind, CountedHull hull, Oracle oracle) {
     switch (kind) {
       case 14 -> CHECK.due(name + "size()", hull.size(), oracle.size());
       case 15 -> CHECK.due(name + "solid()", hull.solid(), oracle.solid());

@@ -14,21 +14,21 @@ public final class PlaceTest {
     CHECK.end();
   }
 
-  private static void side(SolidHull hull, int x, int y, int z, int want) {
+  private static void side(CountedHull hull, int x, int y, int z, int want) {
     CHECK.due("side(" + x + ", " + y + ", " + z + ")", hull.side(x, y, z), want);
   }
 
-  private static void seen(SolidHull hull, int x, int y, int z, int want) {
+  private static void seen(CountedHull hull, int x, int y, int z, int want) {
     CHECK.due("visible(" + x + ", " + y + ", " + z + ")", hull.visible(x, y, z), want);
   }
 
-  private static void far(SolidHull hull, int dx, int dy, int dz, int want) {
+  private static void far(CountedHull hull, int dx, int dy, int dz, int want) {
     CHECK.due("farthest(" + dx + ", " + dy + ", " + dz + ")", hull.farthest(dx, dy, dz), want);
   }
 
   private static void sideOfCube() {
-    SolidHull hull = Shapes.hull(Shapes.FULL_CUBE);
     for (int x = -1; x <= 11; x++) {
+      CountedHull hull = Shapes.hull(Shapes.FULL_CUBE);
       for (int y = -1; y <= 11; y++) {
         for (int z = -1; z <= 11; z++) {
           int least = Math.min(x, Math.min(y, z));
@@ -47,7 +47,7 @@ public final class PlaceTest {
   }
 
   private static void sideOfTetrahedron() {
-    SolidHull hull = Shapes.hull(Shapes.TETRAHEDRON);
+    CountedHull hull = Shapes.hull(Shapes.TETRAHEDRON);
     side(hull, 1, 1, 1, SolidHull.INSIDE);
     side(hull, 1, 1, 2, SolidHull.SURFACE);
     side(hull, 2, 2, 0, SolidHull.SURFACE);
@@ -61,7 +61,7 @@ public final class PlaceTest {
 
   /** Places that are off a facet plane by the least amount there can be. */
   private static void leastTetrahedron() {
-    SolidHull hull = Shapes.hull(new int[][] {{0, 0, 0}, {1, 0, 0}, {0, 1, 0}, {0, 0, 1}});
+    CountedHull hull = Shapes.hull(new int[][] {{0, 0, 0}, {1, 0, 0}, {0, 1, 0}, {0, 0, 1}});
     int[][] off = {{1, 1, 0}, {1, 0, 1}, {0, 1, 1}, {-1, 0, 0}, {0, -1, 0}, {0, 0, -1}};
     for (int[] p : off) {
       side(hull, p[0], p[1], p[2], SolidHull.OUTSIDE);
@@ -70,7 +70,7 @@ public final class PlaceTest {
   }
 
   private static void visible() {
-    SolidHull hull = Shapes.hull(Shapes.TETRAHEDRON);
+    CountedHull hull = Shapes.hull(Shapes.TETRAHEDRON);
     seen(hull, 1, 1, 1, 0);
     seen(hull, 0, 0, 0, 0);
     seen(hull, 2, 2, 0, 0);
@@ -82,7 +82,7 @@ public final class PlaceTest {
     seen(hull, -1, -1, -1, 3);
     seen(hull, -1, 0, 0, 1);
     seen(hull, -1, -1, 0, 2);
-    SolidHull most = Shapes.hull(Shapes.BIPYRAMID);
+    CountedHull most = Shapes.hull(Shapes.BIPYRAMID);
     seen(most, 2, 3, 200, 12);
     seen(most, 2, 3, -200, 12);
     seen(most, 2, 3, 5, 0);
@@ -90,7 +90,7 @@ public final class PlaceTest {
   }
 
   private static void atTheReach() {
-    SolidHull hull = Shapes.hull(Shapes.GREATEST_CUBE);
+    CountedHull hull = Shapes.hull(Shapes.GREATEST_CUBE);
     int[] ends = {-200, 0, 200};
     for (int x : ends) {
       for (int y : ends) {
@@ -108,7 +108,7 @@ public final class PlaceTest {
   }
 
   private static void farthest() {
-    SolidHull hull = Shapes.hull(Shapes.TETRAHEDRON);
+    CountedHull hull = Shapes.hull(Shapes.TETRAHEDRON);
     far(hull, 1, 1, 1, 1);
     far(hull, 0, 1, 1, 2);
     far(hull, 1, 2, 1, 2);
@@ -116,7 +116,7 @@ public final class PlaceTest {
     far(hull, -1, -1, -1, 0);
     far(hull, 0, 0, 0, 0);
     far(hull, -1, -1, 0, 0);
-    SolidHull away = Shapes.hull(new int[][] {{-9, -9, -9}, {-5, -9, -9}, {-9, -5, -9}, {-9, -9, -4}});
+    CountedHull away = Shapes.hull(new int[][] {{-9, -9, -9}, {-5, -9, -9}, {-9, -5, -9}, {-9, -9, -4}});
     far(away, 1, 0, 0, 1);
     far(away, 1, 1, 1, 3);
     far(away, 200, 199, 0, 1);
@@ -125,7 +125,7 @@ public final class PlaceTest {
 
   /** Points that are not corners are never the answer, also where they reach as far or come first. */
   private static void farthestIsCorner() {
-    SolidHull hull = Shapes.hull(new int[][] {
+    CountedHull hull = Shapes.hull(new int[][] {
       {2, 0, 4}, {2, 2, 4}, {2, 2, 2}, {4, 4, 4}, {0, 0, 4}, {4, 0, 4}, {0, 4, 4},
       {0, 0, 0}, {4, 0, 0}, {0, 4, 0}, {4, 4, 0},
     });
@@ -141,12 +141,12 @@ public final class PlaceTest {
   }
 
   private static void refusals() {
-    SolidHull solid = Shapes.hull(Shapes.CUBE);
+    CountedHull solid = Shapes.hull(Shapes.CUBE);
     refuseBadPlaces(solid);
     CHECK.due("size() after refusals", solid.size(), 8);
     CHECK.due("facets() after refusals", solid.facets(), 6);
     for (int[][] flat : Shapes.flats()) {
-      SolidHull hull = Shapes.hull(flat);
+      CountedHull hull = Shapes.hull(flat);
       refuseBadPlaces(hull);
       for (int c : new int[] {-200, 0, 200}) {
         side(hull, c, 0, -c, SolidHull.FLAT);
@@ -157,7 +157,7 @@ public final class PlaceTest {
     }
   }
 
-  private static void refuseBadPlaces(SolidHull hull) {
+  private static void refuseBadPlaces(CountedHull hull) {
     for (int bad : Shapes.BAD_PLACE_COORDINATES) {
       int[][] places = {{bad, 0, 0}, {0, bad, 0}, {0, 0, bad}, {bad, bad, bad}};
       for (int[] p : places) {

@@ -12,14 +12,14 @@ public final class PointTest {
     CHECK.end();
   }
 
-  private static void point(SolidHull hull, int point, int corner, int touching) {
+  private static void point(CountedHull hull, int point, int corner, int touching) {
     CHECK.due("corner(" + point + ")", hull.corner(point), corner);
     CHECK.due("touching(" + point + ")", hull.touching(point), touching);
     CHECK.due("shared(" + point + ", " + point + ")", hull.shared(point, point), touching);
     CHECK.due("edge(" + point + ", " + point + ")", hull.edge(point, point), 0);
   }
 
-  private static void pair(SolidHull hull, int a, int b, int edge, int shared) {
+  private static void pair(CountedHull hull, int a, int b, int edge, int shared) {
     CHECK.due("edge(" + a + ", " + b + ")", hull.edge(a, b), edge);
     CHECK.due("edge(" + b + ", " + a + ")", hull.edge(b, a), edge);
     CHECK.due("shared(" + a + ", " + b + ")", hull.shared(a, b), shared);
@@ -27,7 +27,7 @@ public final class PointTest {
   }
 
   private static void cube() {
-    SolidHull hull = Shapes.hull(Shapes.FULL_CUBE);
+    CountedHull hull = Shapes.hull(Shapes.FULL_CUBE);
     for (int p = 0; p < 8; p++) {
       point(hull, p, 1, 3);
     }
@@ -51,7 +51,7 @@ public final class PointTest {
 
   /** The number of a corner has a bit for each direction: corners share the faces where their bits agree. */
   private static void cubePairs() {
-    SolidHull hull = Shapes.hull(Shapes.GREATEST_CUBE);
+    CountedHull hull = Shapes.hull(Shapes.GREATEST_CUBE);
     for (int a = 0; a < 8; a++) {
       for (int b = 0; b < 8; b++) {
         int shared = 3 - Integer.bitCount(a ^ b);
@@ -62,7 +62,7 @@ public final class PointTest {
 
   /** Points in the line of an edge: only its two ends are corners. */
   private static void line() {
-    SolidHull hull = Shapes.hull(new int[][] {
+    CountedHull hull = Shapes.hull(new int[][] {
       {1, 0, 0}, {2, 0, 0}, {3, 0, 0}, {0, 3, 0}, {0, 0, 3}, {0, 0, 0},
     });
     point(hull, 0, 0, 2);
@@ -83,7 +83,7 @@ public final class PointTest {
   }
 
   private static void bipyramid() {
-    SolidHull hull = Shapes.hull(Shapes.BIPYRAMID);
+    CountedHull hull = Shapes.hull(Shapes.BIPYRAMID);
     for (int p = 0; p < 12; p++) {
       point(hull, p, 1, 4);
       pair(hull, p, (p + 1) % 12, 1, 2);
@@ -96,7 +96,7 @@ public final class PointTest {
     pair(hull, 12, 13, 0, 0);
   }
 
-  private static void badPoint(SolidHull hull, int bad) {
+  private static void badPoint(CountedHull hull, int bad) {
     CHECK.due("corner(" + bad + ")", hull.corner(bad), SolidHull.BAD_POINT);
     CHECK.due("touching(" + bad + ")", hull.touching(bad), SolidHull.BAD_POINT);
     pair(hull, bad, bad, SolidHull.BAD_POINT, SolidHull.BAD_POINT);
@@ -106,7 +106,7 @@ public final class PointTest {
   private static void badPoints() {
     int[] always = {-1, -2, 14, 31, 32, 33, 64, Integer.MIN_VALUE, Integer.MAX_VALUE};
     for (int count = 0; count <= 14; count++) {
-      SolidHull hull = Shapes.hull(Shapes.BIPYRAMID, count);
+      CountedHull hull = Shapes.hull(Shapes.BIPYRAMID, count);
       for (int bad : always) {
         badPoint(hull, bad);
       }
@@ -115,7 +115,7 @@ public final class PointTest {
       }
       CHECK.due("size() after refusals", hull.size(), count);
     }
-    SolidHull shrunk = Shapes.hull(Shapes.CUBE);
+    CountedHull shrunk = Shapes.hull(Shapes.CUBE);
     shrunk.removeLast();
     badPoint(shrunk, 7);
     CHECK.due("corner(6)", shrunk.corner(6), 1);
@@ -123,16 +123,16 @@ public final class PointTest {
 
   private static void flats() {
     for (int[][] flat : Shapes.flats()) {
-      SolidHull hull = Shapes.hull(flat);
       for (int a = 0; a < flat.length; a++) {
+        CountedHull hull = Shapes.hull(flat);
         CHECK.due("flat: corner(" + a + ")", hull.corner(a), SolidHull.FLAT);
         CHECK.due("flat: touching(" + a + ")", hull.touching(a), SolidHull.FLAT);
         for (int b = 0; b < flat.length; b++) {
           pair(hull, a, b, SolidHull.FLAT, SolidHull.FLAT);
         }
         pair(hull, a, flat.length, SolidHull.BAD_POINT, SolidHull.BAD_POINT);
+        CHECK.due("size() after refusals", hull.size(), flat.length);
       }
-      CHECK.due("size() after refusals", hull.size(), flat.length);
     }
   }
 }

@@ -14,7 +14,7 @@ public final class SetTest {
   }
 
   private static void newObject() {
-    SolidHull hull = new SolidHull(14);
+    CountedHull hull = new CountedHull(14);
     CHECK.due("new: size()", hull.size(), 0);
     CHECK.due("new: solid()", hull.solid(), false);
     CHECK.due("new: removeLast()", hull.removeLast(), SolidHull.EMPTY);
@@ -27,7 +27,7 @@ public final class SetTest {
       {15, 14}, {100, 14}, {Integer.MAX_VALUE, 14},
     };
     for (int[] row : roomAndDue) {
-      SolidHull hull = new SolidHull(row[0]);
+      CountedHull hull = new CountedHull(row[0]);
       for (int i = 0; i < row[1]; i++) {
         CHECK.due("room " + row[0] + ": add " + i, hull.add(i, i * i % 7, i * i * i % 11), i);
       }
@@ -37,7 +37,7 @@ public final class SetTest {
   }
 
   private static void addAnswersNumbers() {
-    SolidHull hull = new SolidHull(14);
+    CountedHull hull = new CountedHull(14);
     int[][] edges = {{60, 60, 60}, {-60, -60, -60}, {60, -60, 0}, {0, 60, -60}, {-60, 0, 60}, {0, 0, 0}};
     for (int i = 0; i < edges.length; i++) {
       CHECK.due("add at the edge " + i, hull.add(edges[i][0], edges[i][1], edges[i][2]), i);
@@ -46,7 +46,7 @@ public final class SetTest {
   }
 
   private static void addRefusals() {
-    SolidHull hull = Shapes.hull(Shapes.TETRAHEDRON);
+    CountedHull hull = Shapes.hull(Shapes.TETRAHEDRON);
     for (int bad : Shapes.BAD_POINT_COORDINATES) {
       CHECK.due("add(" + bad + ", 0, 0)", hull.add(bad, 0, 0), SolidHull.BAD_PLACE);
       CHECK.due("add(0, " + bad + ", 0)", hull.add(0, bad, 0), SolidHull.BAD_PLACE);
@@ -64,7 +64,7 @@ public final class SetTest {
   }
 
   private static void addRefusalOrder() {
-    SolidHull hull = new SolidHull(4);
+    CountedHull hull = new CountedHull(4);
     for (int[] point : Shapes.TETRAHEDRON) {
       hull.add(point[0], point[1], point[2]);
     }
@@ -76,7 +76,7 @@ public final class SetTest {
   }
 
   private static void removeLast() {
-    SolidHull hull = Shapes.hull(Shapes.CUBE);
+    CountedHull hull = Shapes.hull(Shapes.CUBE);
     hull.add(5, 5, 20);
     CHECK.due("with the tip: sixVolume()", hull.sixVolume(), 8000);
     CHECK.due("removeLast() of the tip", hull.removeLast(), 8);
@@ -94,7 +94,7 @@ public final class SetTest {
     CHECK.due("removeLast() of none again", hull.removeLast(), SolidHull.EMPTY);
     CHECK.due("size() of none", hull.size(), 0);
     CHECK.due("add after all is removed", hull.add(10, 10, 10), 0);
-    SolidHull full = new SolidHull(4);
+    CountedHull full = new CountedHull(4);
     for (int[] point : Shapes.TETRAHEDRON) {
       full.add(point[0], point[1], point[2]);
     }
@@ -108,12 +108,12 @@ public final class SetTest {
       CHECK.due("flat set of " + flat.length + ": solid()", Shapes.hull(flat).solid(), false);
     }
     CHECK.due("tetrahedron: solid()", Shapes.hull(Shapes.TETRAHEDRON).solid(), true);
-    SolidHull hull = Shapes.hull(Shapes.flats()[6]);
+    CountedHull hull = Shapes.hull(Shapes.flats()[6]);
     hull.add(20, 20, 21);
     CHECK.due("a point just off the plane: solid()", hull.solid(), true);
     hull.removeLast();
     CHECK.due("and removed: solid()", hull.solid(), false);
-    SolidHull line = Shapes.hull(Shapes.flats()[3]);
+    CountedHull line = Shapes.hull(Shapes.flats()[3]);
     line.add(1, 0, 0);
     CHECK.due("a line and a point: solid()", line.solid(), false);
     line.add(0, 1, 0);
@@ -121,8 +121,8 @@ public final class SetTest {
   }
 
   private static void objectsApart() {
-    SolidHull one = Shapes.hull(Shapes.CUBE);
-    SolidHull other = Shapes.hull(Shapes.TETRAHEDRON);
+    CountedHull one = Shapes.hull(Shapes.CUBE);
+    CountedHull other = Shapes.hull(Shapes.TETRAHEDRON);
     CHECK.due("one of two: sixVolume()", one.sixVolume(), 6000);
     CHECK.due("other of two: sixVolume()", other.sixVolume(), 64);
     CHECK.due("one of two: size()", one.size(), 8);
