@@ -19,6 +19,11 @@ final class Check {
     due(call, got ? 1 : 0, want ? 1 : 0);
   }
 
+  void threw(String call, RuntimeException thrown, long want) {
+    wrong++;
+    System.out.println(sentence + call + " threw " + thrown + ", due is " + want);
+  }
+
   void end() {
     System.out.println(wrong == 0 ? "all answers are as due" : wrong + " answers are not as due");
     if (wrong != 0) {

@@ -1,3 +1,5 @@
+import java.util.function.IntSupplier;
+
 /** An object under test, where each call comes with the answer that is due. */
 final class DueHull {
   private final Check check;
@@ -32,19 +34,19 @@ final class DueHull {
   }
 
   void add(int x, int y, int z, int want) {
-    check.due(name + "add" + list(x, y, z), hull.add(x, y, z), want);
+    due("add" + list(x, y, z), () -> hull.add(x, y, z), want);
   }
 
   void removeLast(int want) {
-    check.due(name + "removeLast()", hull.removeLast(), want);
+    due("removeLast()", () -> hull.removeLast(), want);
   }
 
   void size(int want) {
-    check.due(name + "size()", hull.size(), want);
+    due("size()", () -> hull.size(), want);
   }
 
   void solid(boolean want) {
-    check.due(name + "solid()", hull.solid(), want);
+    due("solid()", () -> hull.solid() ? 1 : 0, want ? 1 : 0);
   }
 
   void side(int[] p, int want) {
@@ -52,7 +54,7 @@ final class DueHull {
   }
 
   void side(int x, int y, int z, int want) {
-    check.due(name + "side" + list(x, y, z), hull.side(x, y, z), want);
+    due("side" + list(x, y, z), () -> hull.side(x, y, z), want);
   }
 
   void visible(int[] p, int want) {
@@ -60,39 +62,39 @@ final class DueHull {
   }
 
   void visible(int x, int y, int z, int want) {
-    check.due(name + "visible" + list(x, y, z), hull.visible(x, y, z), want);
+    due("visible" + list(x, y, z), () -> hull.visible(x, y, z), want);
   }
 
   void facets(int want) {
-    check.due(name + "facets()", hull.facets(), want);
+    due("facets()", () -> hull.facets(), want);
   }
 
   void corners(int want) {
-    check.due(name + "corners()", hull.corners(), want);
+    due("corners()", () -> hull.corners(), want);
   }
 
   void edges(int want) {
-    check.due(name + "edges()", hull.edges(), want);
+    due("edges()", () -> hull.edges(), want);
   }
 
   void corner(int point, int want) {
-    check.due(name + "corner(" + point + ")", hull.corner(point), want);
+    due("corner(" + point + ")", () -> hull.corner(point), want);
   }
 
   void touching(int point, int want) {
-    check.due(name + "touching(" + point + ")", hull.touching(point), want);
+    due("touching(" + point + ")", () -> hull.touching(point), want);
   }
 
   void edge(int a, int b, int want) {
-    check.due(name + "edge(" + a + ", " + b + ")", hull.edge(a, b), want);
+    due("edge(" + a + ", " + b + ")", () -> hull.edge(a, b), want);
   }
 
   void shared(int a, int b, int want) {
-    check.due(name + "shared(" + a + ", " + b + ")", hull.shared(a, b), want);
+    due("shared(" + a + ", " + b + ")", () -> hull.shared(a, b), want);
   }
 
   void sixVolume(int want) {
-    check.due(name + "sixVolume()", hull.sixVolume(), want);
+    due("sixVolume()", () -> hull.sixVolume(), want);
   }
 
   void farthest(int[] d, int want) {
@@ -100,7 +102,16 @@ final class DueHull {
   }
 
   void farthest(int dx, int dy, int dz, int want) {
-    check.due(name + "farthest" + list(dx, dy, dz), hull.farthest(dx, dy, dz), want);
+    due("farthest" + list(dx, dy, dz), () -> hull.farthest(dx, dy, dz), want);
+  }
+
+  /** No call may ever throw; one that does is a wrong answer, and the test goes on. */
+  private void due(String call, IntSupplier asked, int want) {
+    try {
+      check.due(name + call, asked.getAsInt(), want);
+    } catch (RuntimeException thrown) {
+      check.threw(name + call, thrown, want);
+    }
   }
 
   private static String list(int x, int y, int z) {

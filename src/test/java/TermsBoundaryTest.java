@@ -10,6 +10,7 @@ public final class TermsBoundaryTest {
     solid();
     hullContainsItsPoints();
     threeInOneLine();
+    facetPlane();
     outerSide();
     pointsInThePlane();
     planesCountOnce();
@@ -152,15 +153,19 @@ public final class TermsBoundaryTest {
         hull.visible(point, 0);
       }
     }
-    DueHull octahedron = hull("octahedron", new int[][] {
-      {4, 0, 0}, {-4, 0, 0}, {0, 4, 0}, {0, -4, 0}, {0, 0, 4}, {0, 0, -4},
-    });
+    DueHull octahedron = octahedron();
     octahedron.side(0, 0, 0, SolidHull.INSIDE);
     octahedron.side(2, 2, 0, SolidHull.SURFACE);
     octahedron.side(1, 1, 2, SolidHull.SURFACE);
     octahedron.side(3, 0, 0, SolidHull.INSIDE);
     octahedron.side(5, 0, 0, SolidHull.OUTSIDE);
     octahedron.side(2, 2, 1, SolidHull.OUTSIDE);
+  }
+
+  private static DueHull octahedron() {
+    return hull("octahedron", new int[][] {
+      {4, 0, 0}, {-4, 0, 0}, {0, 4, 0}, {0, -4, 0}, {0, 0, 4}, {0, 0, -4},
+    });
   }
 
   /** Three points in one line come first, where they could spoil a search that starts with them. */
@@ -191,6 +196,30 @@ public final class TermsBoundaryTest {
     edge.edges(6);
     edge.sixVolume(275);
     edge.visible(5, -1, -1, 2);
+  }
+
+  /** A plane with points on both sides is none, also with one point on each and all others in it. */
+  private static void facetPlane() {
+    CHECK.sentence("Terms: if no point of the set lies strictly on one of its two sides, it is a facet plane");
+    DueHull octahedron = octahedron();
+    octahedron.facets(8);
+    octahedron.touching(0, 4);
+    octahedron.shared(0, 1, 0);
+    octahedron.visible(200, 200, 200, 4);
+    octahedron.visible(5, 0, 0, 4);
+    DueHull bipyramid = hull("bipyramid", Shapes.BIPYRAMID);
+    bipyramid.facets(24);
+    bipyramid.touching(0, 4);
+    bipyramid.shared(0, 6, 0);
+    // One point more, just below the base, and the base is a facet plane no longer.
+    DueHull pyramid = hull("pyramid", Shapes.PYRAMID);
+    pyramid.shared(0, 1, 1);
+    pyramid.facets(11);
+    pyramid.add(2, 3, -1, 11);
+    pyramid.shared(0, 1, 0);
+    pyramid.facets(20);
+    pyramid.removeLast(11);
+    pyramid.facets(11);
   }
 
   /** Whatever the order of the points is, the outer side is the one where none lies. */
